@@ -224,7 +224,7 @@ public final class NetworkSimplex {
     private void routeExcess() {
         for (int push = 0; push < MAX_PUSHES; push++) {
             findShortestPaths();
-            int target = nearestDeficit();
+            int target = reachedDeficit();
             if (target == NONE) {
                 break;
             }
@@ -232,8 +232,8 @@ public final class NetworkSimplex {
         }
     }
 
-    // All nodes with excess are sources at once, so that the nearest deficit
-    // ends a path that is shortest among all from any excess to any deficit.
+    // All nodes with excess are sources at once: a shortest path to a deficit may
+    // then come from any of them, and which deficit it goes to makes no difference.
     private void findShortestPaths() {
         for (int node = 0; node < nodeCount; node++) {
             distance[node] = excess[node] > 0 ? 0 : UNREACHED;
@@ -267,16 +267,13 @@ public final class NetworkSimplex {
         return true;
     }
 
-    private int nearestDeficit() {
-        int nearest = NONE;
-        int least = UNREACHED;
+    private int reachedDeficit() {
         for (int node = 0; node < nodeCount; node++) {
-            if (excess[node] < 0 && distance[node] < least) {
-                nearest = node;
-                least = distance[node];
+            if (excess[node] < 0 && distance[node] != UNREACHED) {
+                return node;
             }
         }
-        return nearest;
+        return NONE;
     }
 
     private void pushTo(int target) {
@@ -294,25 +291,22 @@ public final class NetworkSimplex {
     }
 
     // No arc has the same tail and head, so a path that comes to a node by an
-    // arc runs along it exactly if the node is the arc's head.
-    private boolean runsAlong(int node) {
-        return arcHead[pathArc[node]] == node;
+    // arc runs along the arc if the node is its head, and else against it.
+    private int pathPrevious(int node) {
+        int arc = pathArc[node];
+        return arcHead[arc] == node ? arcTail[arc] : arcHead[arc];
     }
 
     private int pathRoom(int node) {
         int arc = pathArc[node];
-        return runsAlong(node) ? arcCap[arc] - flow[arc] : flow[arc];
-    }
-
-    private int pathPrevious(int node) {
-        int arc = pathArc[node];
-        return runsAlong(node) ? arcTail[arc] : arcHead[arc];
+        return arcHead[arc] == node ? arcCap[arc] - flow[arc] : flow[arc];
     }
 
     private void changePathFlow(int target, int amount) {
         int node = target;
         for (int step = 0; step < nodeCount && pathArc[node] != NONE; step++) {
-            flow[pathArc[node]] += runsAlong(node) ? amount : -amount;
+            int arc = pathArc[node];
+            flow[arc] += arcHead[arc] == node ? amount : -amount;
             node = pathPrevious(node);
         }
     }
