@@ -1,10 +1,11 @@
+import java.util.Arrays;
+
 /** Counts answers that are not as due, and views the whole of an object's answers. */
 final class Check {
-    static final int[] EXTREMES = {
-        Integer.MIN_VALUE, Integer.MIN_VALUE + 1, -1000, -1, Integer.MAX_VALUE - 1, Integer.MAX_VALUE
-    };
+    static final String NO_RESULT = "status 0 cost 0 shortfall 0 witness 0:";
 
     private static int wrong = 0;
+    private static int shown = 0;
 
     private Check() {
     }
@@ -27,11 +28,31 @@ final class Check {
         }
     }
 
+    static void due(String call, int[][] got, int[][] want) {
+        due(call, Arrays.deepToString(got), Arrays.deepToString(want));
+    }
+
     private static void tell(String fault) {
         wrong++;
+        shown++;
         // A broken promise can break thousands of answers; the first ones tell enough.
-        if (wrong <= 50) {
+        if (shown <= 10) {
             System.out.println(fault);
+        }
+    }
+
+    /** Runs the test of one sentence of the document, and names the sentence if it does not hold. */
+    static void sentence(String words, Runnable test) {
+        int before = wrong;
+        shown = 0;
+        try {
+            test.run();
+        } catch (Throwable thrown) {
+            // No call may throw, so one that does is a wrong answer like any other.
+            tell("a call threw " + thrown);
+        }
+        if (wrong != before) {
+            System.out.println("NOT HELD: " + words);
         }
     }
 
@@ -42,12 +63,29 @@ final class Check {
         }
     }
 
-    /** Nodes, supplies and arcs as the getters tell them. */
-    static String network(NetworkSimplex x) {
+    /** Nodes and supplies as the getters tell them. */
+    static String supplies(NetworkSimplex x) {
         StringBuilder text = new StringBuilder("nodes " + x.getNodeCount() + " supplies");
         for (int v = -1; v <= x.getNodeCount(); v++) {
             text.append(' ').append(x.getSupply(v));
         }
+        return text.toString();
+    }
+
+    /** Tail, head, capacity and cost of each arc as the getters tell them. */
+    static int[][] arcs(NetworkSimplex x) {
+        int[][] arcs = new int[x.getArcCount()][4];
+        for (int k = 0; k < arcs.length; k++) {
+            for (int field = 0; field < 4; field++) {
+                arcs[k][field] = x.getArc(k, field);
+            }
+        }
+        return arcs;
+    }
+
+    /** Nodes, supplies and arcs as the getters tell them, with what lies just beyond. */
+    static String network(NetworkSimplex x) {
+        StringBuilder text = new StringBuilder(supplies(x));
         text.append(" arcs ").append(x.getArcCount());
         for (int k = -1; k <= x.getArcCount(); k++) {
             text.append(" |");
@@ -74,42 +112,33 @@ final class Check {
         return result(x) + " " + network(x);
     }
 
-    static final String NO_RESULT = "status 0 cost 0 shortfall 0 witness 0:";
-
-    /** Three nodes, two arcs, optimal at cost 4 * 3 + 4 * -1 = 8. */
-    static NetworkSimplex optimal() {
-        NetworkSimplex x = new NetworkSimplex(3);
-        x.addArc(0, 1, 6, 3);
-        x.addArc(1, 2, 5, -1);
-        x.setSupply(0, 4);
-        x.setSupply(2, -4);
-        x.solve();
-        due("optimal()", result(x), "status 1 cost 8 shortfall 0 witness 0:");
-        return x;
+    /** A new object of the same network, built from what the getters tell. */
+    static NetworkSimplex copy(NetworkSimplex x) {
+        NetworkSimplex y = new NetworkSimplex(x.getNodeCount());
+        for (int v = 0; v < x.getNodeCount(); v++) {
+            y.setSupply(v, x.getSupply(v));
+        }
+        for (int k = 0; k < x.getArcCount(); k++) {
+            y.addArc(x.getArc(k, 0), x.getArc(k, 1), x.getArc(k, 2), x.getArc(k, 3));
+        }
+        return y;
     }
 
-    /** The same arcs asked for 7: the arc into node 2 lacks 2. */
-    static NetworkSimplex infeasible() {
-        NetworkSimplex x = optimal();
-        x.setSupply(0, 7);
-        x.setSupply(2, -7);
-        x.solve();
-        due("infeasible()", result(x), "status 2 cost 0 shortfall 2 witness 1: 2");
-        return x;
+    /** Solves, and looks at the answer, the network and a second solve too. */
+    static void solves(String what, NetworkSimplex x, String want) {
+        String before = network(x);
+        int first = x.solve();
+        due(what + ": solve() and getStatus()", first, x.getStatus());
+        due(what, result(x), want);
+        due(what + ": network after solve()", network(x), before);
+        due(what + ": solve() again", x.solve(), first);
+        due(what + ", again", result(x), want);
     }
 
-    static NetworkSimplex unbalanced() {
-        NetworkSimplex x = optimal();
-        x.setSupply(1, 1);
-        x.solve();
-        due("unbalanced()", result(x), "status 3 cost 0 shortfall 0 witness 0:");
-        return x;
-    }
-
-    /** An object of every status. */
-    static NetworkSimplex[] ofEachStatus() {
-        NetworkSimplex none = optimal();
-        none.setSupply(1, 0);
-        return new NetworkSimplex[] {none, optimal(), infeasible(), unbalanced()};
+    /** Solves the object and a new one alike; what no getter tells would part their answers. */
+    static void solvesLikeNew(String when, NetworkSimplex x) {
+        NetworkSimplex fresh = copy(x);
+        due("solve() " + when, x.solve(), fresh.solve());
+        due("the answers " + when, all(x), all(fresh));
     }
 }
