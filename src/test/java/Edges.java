@@ -23,10 +23,6 @@ final class Edges {
         return Arrays.stream(ALL).filter(value -> value > bound).toArray();
     }
 
-    static int[] within(int low, int high) {
-        return Arrays.stream(ALL).filter(value -> value >= low && value <= high).toArray();
-    }
-
     /** Numbers that name none of so many nodes or arcs. */
     static int[] outside(int count) {
         return Arrays.stream(ALL).filter(value -> value < 0 || value >= count).toArray();

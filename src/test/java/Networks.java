@@ -47,6 +47,15 @@ final class Networks {
         return x;
     }
 
+    /** The same line with its arcs added from the last to the first. */
+    static NetworkSimplex lineFromItsEnd(int nodes, int cap, int cost) {
+        NetworkSimplex x = new NetworkSimplex(nodes);
+        for (int v = nodes - 2; v >= 0; v--) {
+            x.addArc(v, v + 1, cap, cost);
+        }
+        return x;
+    }
+
     /** A line and the arc from its last node to its first. */
     static NetworkSimplex cycle(int nodes, int cap, int cost) {
         NetworkSimplex x = line(nodes, cap, cost);

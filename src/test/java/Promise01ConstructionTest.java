@@ -67,6 +67,10 @@ public final class Promise01ConstructionTest {
                 x.solve();
                 Check.due("getNodeCount() after calls with " + value, x.getNodeCount(), count);
             }
+            for (int k = 0; k < 97; k++) {
+                x.addArc(0, 1, 1, 1);
+                Check.due("getNodeCount() after addArc", x.getNodeCount(), count);
+            }
         }
     }
 

@@ -18,8 +18,8 @@ public final class Promise02AddArcTest {
         Check.sentence("Otherwise the call succeeds: every pair of nodes", Promise02AddArcTest::allPairsAreTaken);
         Check.sentence("`cap` is clamped into [0, 20]", Promise02AddArcTest::capIsClamped);
         Check.sentence("`cost` into [-50, 50]", Promise02AddArcTest::costIsClamped);
-        Check.sentence("the new arc receives the number `getArcCount()` had before the call, and that number is answered;"
-            + " the arc count grows by 1", Promise02AddArcTest::numbersFollow);
+        Check.sentence("the new arc receives the number `getArcCount()` had before the call, and that number"
+            + " is answered; the arc count grows by 1", Promise02AddArcTest::numbersFollow);
         Check.sentence("Parallel arcs (same tail and same head as an existing arc) are allowed and are distinct arcs"
             + " with their own numbers, capacities and costs", Promise02AddArcTest::parallelArcs);
         Check.sentence("An arc in the opposite direction of an existing arc is likewise a separate arc",

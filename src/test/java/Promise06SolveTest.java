@@ -3,7 +3,8 @@ public final class Promise06SolveTest {
     private static final String UNBALANCED = "status 3 cost 0 shortfall 0 witness 0:";
 
     public static void main(String[] args) {
-        Check.sentence("It is never refused and answers the new status (the same value `getStatus()` answers afterwards)",
+        Check.sentence("It is never refused and answers the new status (the same value `getStatus()` answers"
+            + " afterwards)",
             Promise06SolveTest::answersTheStatus);
         Check.sentence("Nodes, arcs, supplies, capacities and costs are not changed by it",
             Promise06SolveTest::keepsTheNetwork);
@@ -287,6 +288,10 @@ public final class Promise06SolveTest {
             x.setSupply(0, 20);
             x.setSupply(nodes - 1, -20);
             Check.solves("a line of " + nodes + " just wide enough", x, optimal(20 * (nodes - 1)));
+            NetworkSimplex y = Networks.lineFromItsEnd(nodes, 20, 1);
+            y.setSupply(0, 20);
+            y.setSupply(nodes - 1, -20);
+            Check.solves("the same line from its end", y, optimal(20 * (nodes - 1)));
         }
     }
 
@@ -333,6 +338,10 @@ public final class Promise06SolveTest {
         y.setSupply(0, 20);
         y.setSupply(23, -20);
         Check.solves("the longest way, paying", y, optimal(-23 * 20 * 50));
+        NetworkSimplex z = Networks.lineFromItsEnd(24, 20, -50);
+        z.setSupply(0, 20);
+        z.setSupply(23, -20);
+        Check.solves("the longest way from its end, paying", z, optimal(-23 * 20 * 50));
     }
 
     private static void greatestOfAllCosts() {
@@ -341,6 +350,10 @@ public final class Promise06SolveTest {
         y.setSupply(0, 20);
         y.setSupply(23, -20);
         Check.solves("the longest way", y, optimal(23 * 20 * 50));
+        NetworkSimplex z = Networks.lineFromItsEnd(24, 20, 50);
+        z.setSupply(0, 20);
+        z.setSupply(23, -20);
+        Check.solves("the longest way from its end", z, optimal(23 * 20 * 50));
     }
 
     private static void signsOfTheCost() {

@@ -76,9 +76,11 @@ public final class Promise10WitnessTest {
             }
         }
         for (int nodes = 2; nodes <= 24; nodes++) {
-            NetworkSimplex y = apart(nodes, 0);
+            NetworkSimplex withFirst = apart(nodes, nodes - 1);
+            NetworkSimplex withLast = starving(nodes);
             for (int node : Edges.below(0)) {
-                Check.due("inWitness(" + node + ") of " + nodes, y.inWitness(node), false);
+                Check.due("inWitness(" + node + ") of " + nodes, withFirst.inWitness(node), false);
+                Check.due("inWitness(" + node + ") of " + nodes, withLast.inWitness(node), false);
             }
         }
     }
@@ -90,9 +92,11 @@ public final class Promise10WitnessTest {
             }
         }
         for (int nodes = 2; nodes <= 24; nodes++) {
-            NetworkSimplex y = apart(nodes, nodes - 1);
+            NetworkSimplex withFirst = apart(nodes, nodes - 1);
+            NetworkSimplex withLast = starving(nodes);
             for (int node : Edges.above(nodes - 1)) {
-                Check.due("inWitness(" + node + ") of " + nodes, y.inWitness(node), false);
+                Check.due("inWitness(" + node + ") of " + nodes, withFirst.inWitness(node), false);
+                Check.due("inWitness(" + node + ") of " + nodes, withLast.inWitness(node), false);
             }
         }
     }

@@ -99,6 +99,8 @@ public final class Promise11To14NetworkTest {
             x.addArc(-1, 2, 1, 1);
             x.addArc(2, 5, 1, 1);
             x.setSupply(1, count);
+            x.solve();
+            x.setSupply(1, 0);
             x.setSupply(5, count);
             x.setCapacity(count - 1, 0);
             x.setCapacity(count, 1);
@@ -137,12 +139,14 @@ public final class Promise11To14NetworkTest {
 
     private static void noSupply() {
         for (int nodes = 2; nodes <= 24; nodes++) {
-            NetworkSimplex x = new NetworkSimplex(nodes);
-            x.addArc(0, 1, 9, 9);
-            x.setSupply(nodes - 1, 9);
-            x.solve();
-            for (int v = 0; v < nodes - 1; v++) {
-                Check.due("getSupply(" + v + ")", x.getSupply(v), 0);
+            for (int set = 0; set < nodes; set++) {
+                NetworkSimplex x = new NetworkSimplex(nodes);
+                x.addArc(0, 1, 9, 9);
+                x.setSupply(set, 9);
+                x.solve();
+                for (int v = 0; v < nodes; v++) {
+                    Check.due("getSupply(" + v + ") with " + set + " set", x.getSupply(v), v == set ? 9 : 0);
+                }
             }
         }
     }

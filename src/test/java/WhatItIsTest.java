@@ -3,7 +3,8 @@ import java.util.List;
 /** The section "What it is": RESET, clamping, refused calls, what clears a result, overflow. */
 public final class WhatItIsTest {
     public static void main(String[] args) {
-        Check.sentence("every successful `addArc`, `setSupply`, `setCapacity` or `setCost` call clears the previous result",
+        Check.sentence("every successful `addArc`, `setSupply`, `setCapacity` or `setCost` call clears"
+            + " the previous result",
             WhatItIsTest::changesClear);
         Check.sentence("even if the stored value stays the same", WhatItIsTest::sameValuesClear);
         Check.sentence("a refused call clears nothing", WhatItIsTest::refusedCallsClearNothing);
