@@ -15,9 +15,11 @@ final class Numbers {
     /** A network with so many nodes and arcs and the given greatest capacity. */
     NetworkSimplex network(int nodes, int arcs, int maxCap, int minCost, int maxCost) {
         NetworkSimplex x = new NetworkSimplex(nodes);
-        while (x.getArcCount() < arcs) {
+        // Bounded, so that a network which takes no arc fails a test and does not hold it up.
+        for (int tries = 0; tries < 10000 && x.getArcCount() < arcs; tries++) {
             x.addArc(from(0, nodes - 1), from(0, nodes - 1), from(0, maxCap), from(minCost, maxCost));
         }
+        Check.due("arcs of a network with room for them", x.getArcCount(), arcs);
         return x;
     }
 

@@ -5,6 +5,8 @@ import java.util.List;
 /** Promise 2: addArc's refusals, clamps, numbers and RESET. */
 public final class Promise02AddArcTest {
     public static void main(String[] args) {
+        Check.sentence("`addArc(tail, head, cap, cost)` adds an arc from `tail` to `head`",
+            Promise02AddArcTest::leadsFromTailToHead);
         Check.sentence("`getArcCount() == 96` (the network is full)", Promise02AddArcTest::fullIsRefused);
         Check.sentence("the network is full: with 95 arcs it is not", Promise02AddArcTest::lastArcIsTaken);
         Check.sentence("`tail < 0`", Promise02AddArcTest::tailTooSmall);
@@ -35,6 +37,22 @@ public final class Promise02AddArcTest {
         String call = "addArc(" + tail + ", " + head + ", 1, 1) of " + x.getNodeCount() + " nodes";
         Check.due(call, x.addArc(tail, head, 1, 1), -1);
         Check.due("after " + call, Check.all(x), before);
+    }
+
+    private static void leadsFromTailToHead() {
+        for (int nodes = 2; nodes <= 24; nodes++) {
+            for (int tail = 0; tail < nodes; tail++) {
+                int head = (tail + 1) % nodes;
+                NetworkSimplex x = new NetworkSimplex(nodes);
+                x.addArc(tail, head, 3, 7);
+                x.setSupply(tail, 2);
+                x.setSupply(head, -2);
+                Check.solves("from " + tail + " to " + head, x, "status 1 cost 14 shortfall 0 witness 0:");
+                x.setSupply(tail, -2);
+                x.setSupply(head, 2);
+                Check.solves("from " + head + " to " + tail, x, "status 2 cost 0 shortfall 2 witness 1: " + tail);
+            }
+        }
     }
 
     private static List<NetworkSimplex> withRoom() {

@@ -3,6 +3,7 @@ public final class Promise06SolveTest {
     private static final String UNBALANCED = "status 3 cost 0 shortfall 0 witness 0:";
 
     public static void main(String[] args) {
+        Check.sentence("`solve()` solves the current network", Promise06SolveTest::currentNetwork);
         Check.sentence("It is never refused and answers the new status (the same value `getStatus()` answers"
             + " afterwards)",
             Promise06SolveTest::answersTheStatus);
@@ -49,6 +50,25 @@ public final class Promise06SolveTest {
 
     private static String optimal(int cost) {
         return "status 1 cost " + cost + " shortfall 0 witness 0:";
+    }
+
+    /** Each change alone changes what is due, and is not yet in the network that was solved before. */
+    private static void currentNetwork() {
+        NetworkSimplex x = new NetworkSimplex(2);
+        x.addArc(0, 1, 10, 5);
+        x.setSupply(0, 8);
+        x.setSupply(1, -8);
+        Check.solves("at first", x, optimal(40));
+        x.addArc(0, 1, 3, 1);
+        Check.solves("with another arc", x, optimal(3 + 5 * 5));
+        x.setCost(1, 2);
+        Check.solves("with another cost", x, optimal(6 + 5 * 5));
+        x.setCapacity(0, 4);
+        Check.solves("with another capacity", x, "status 2 cost 0 shortfall 1 witness 1: 1");
+        x.setSupply(0, 7);
+        Check.solves("with another supply", x, UNBALANCED);
+        x.setSupply(1, -7);
+        Check.solves("with both supplies changed", x, optimal(6 + 4 * 5));
     }
 
     private static void answersTheStatus() {

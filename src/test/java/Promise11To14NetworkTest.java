@@ -20,6 +20,8 @@ public final class Promise11To14NetworkTest {
         Check.sentence("13: or `node >= getNodeCount()`", Promise11To14NetworkTest::supplyOfNodeTooLarge);
         Check.sentence("13: It changes nothing", Promise11To14NetworkTest::supplyChangesNothing);
 
+        Check.sentence("14: answers one stored field of an arc: `FIELD_TAIL` ... `FIELD_COST`",
+            Promise11To14NetworkTest::eachFieldOfEachArc);
         Check.sentence("14: Tail and head are the values given to the successful `addArc` and never change",
             Promise11To14NetworkTest::endsStay);
         Check.sentence("14: the arc's capacity as stored (the clamped value), replaced by the latest successful"
@@ -54,7 +56,8 @@ public final class Promise11To14NetworkTest {
             x.setCost(0, 9);
             x.solve();
             Check.due("getNodeCount() after calls", x.getNodeCount(), nodes);
-            while (x.addArc(nodes - 1, 0, 1, 1) >= 0) {
+            for (int k = 1; k < 100; k++) {
+                x.addArc(nodes - 1, 0, 1, 1);
                 Check.due("getNodeCount() after addArc", x.getNodeCount(), nodes);
             }
             x.setSupply(0, 0);
@@ -187,6 +190,19 @@ public final class Promise11To14NetworkTest {
                 x.getSupply(node);
             }
             Check.due("after getSupply", Check.all(x), before);
+        }
+    }
+
+    private static void eachFieldOfEachArc() {
+        NetworkSimplex x = new NetworkSimplex(24);
+        for (int k = 0; k < 96; k++) {
+            x.addArc(k % 24, (k + 7) % 24, 20 - k % 20, k - 45);
+            for (int arc = 0; arc <= k; arc++) {
+                Check.due("tail of " + arc, x.getArc(arc, NetworkSimplex.FIELD_TAIL), arc % 24);
+                Check.due("head of " + arc, x.getArc(arc, NetworkSimplex.FIELD_HEAD), (arc + 7) % 24);
+                Check.due("capacity of " + arc, x.getArc(arc, NetworkSimplex.FIELD_CAP), 20 - arc % 20);
+                Check.due("cost of " + arc, x.getArc(arc, NetworkSimplex.FIELD_COST), arc - 45);
+            }
         }
     }
 
